@@ -1,0 +1,71 @@
+import java.io.IOException;
+import java.nio.file.Files;
+import java.nio.file.Path;
+import java.util.List;
+import java.util.regex.Matcher;
+import java.util.regex.Pattern;
+
+/** What can be seen from the text alone of the rules in LANGUAGE.md; the first argument names the source. */
+public final class LanguageTest {
+    private static final String[] NEVER = {
+        "^\\s*package\\b", "^\\s*import\\b", "->", "::", "\\btry\\b", "\\bcatch\\b", "\\bfinally\\b",
+        "\\bsynchronized\\b", "\\bassert\\b", "\\binstanceof\\b", "\\bnative\\b", "\\bvolatile\\b",
+        "\\bSystem\\b", "\\bThread\\b", "\\bRandom\\b", "Exact\\b", "@", "\\bfloat\\b", "\\bdouble\\b",
+        "\\bhashCode\\b", "\\bequals\\b", "\\btoString\\b", "\\bstatic\\s*\\{", "\\bprotected\\b",
+        "[^\\x00-\\x7f]",
+    };
+    private static final Pattern METHOD = Pattern.compile(
+            "^( {4}| {8})(?!.*\\bclass\\b)[A-Za-z][A-Za-z \\[\\]]*\\b[A-Za-z]+\\(.*\\{$");
+
+    public static void main(String[] args) throws IOException {
+        List<String> lines = Files.readAllLines(Path.of(args[0]));
+        for (int i = 0; i < lines.size(); i++) {
+            String code = lines.get(i).replaceAll("^\\s*(/\\*|\\*|//).*$", "");
+            for (String never : NEVER) {
+                Due.holds("line " + (i + 1) + " without " + never + ": " + code,
+                        !Pattern.compile(never).matcher(code).find());
+            }
+        }
+        throwsOnlyWhatIsTold(lines);
+        Due.holds("methods were found", methodsAreShort(lines) > 60);
+        Due.holds("at most twelve classes", classes(lines) <= 12);
+        Due.finish();
+    }
+
+    private static void throwsOnlyWhatIsTold(List<String> lines) {
+        Pattern told = Pattern.compile(
+                "throw new (ArrayIndexOutOfBoundsException|NullPointerException)\\(\"[a-z ]+\"\\);");
+        for (String line : lines) {
+            Due.holds("a throw as told: " + line, !line.contains("throw ") || told.matcher(line).find());
+        }
+    }
+
+    private static int methodsAreShort(List<String> lines) {
+        int methods = 0;
+        for (int i = 0; i < lines.size(); i++) {
+            Matcher head = METHOD.matcher(lines.get(i));
+            if (!head.matches()) {
+                continue;
+            }
+            methods++;
+            int end = i;
+            while (!lines.get(end).equals(head.group(1) + "}")) {
+                end++;
+            }
+            Due.holds("at most sixty lines: " + lines.get(i), end - i < 60);
+            int parameters = lines.get(i).split(",").length;
+            Due.holds("at most seven parameters: " + lines.get(i), parameters <= 7);
+        }
+        return methods;
+    }
+
+    private static int classes(List<String> lines) {
+        int classes = 0;
+        for (String line : lines) {
+            if (line.matches("^ *(public |private )?(static )?final class .*")) {
+                classes++;
+            }
+        }
+        return classes;
+    }
+}
