@@ -315,6 +315,7 @@ public final class PromisesTest {
         due("12 gone", x.remove(2), 4);
         rowIs("12 from the way", x, 0, 0, 2, 1, 3, 1, 0, 1, NONE, 0, 0, 0);
         rowIs("12 generated no more", x, 4, 0, 0, 0, 0, 0);
+        due("12 so it may read", x.reader(4, true), 0);
         due("12 twice", x.remove(2), UNKNOWN);
         due("12 no unit", x.remove(5), UNKNOWN);
         due("12 no unit -1", x.remove(-1), UNKNOWN);
@@ -658,6 +659,11 @@ public final class PromisesTest {
         due("21 uses more", x.why(0), 2);
         x.use(0, CONSTANT, 1);
         x.make(16);
+        x.unuse(0, 1);
+        x.use(0, CONSTANT, 2);
+        due("21 as many uses, others", x.why(0), 2);
+        x.unuse(0, 1);
+        x.use(0, CONSTANT, 1);
         x.unuse(0, 0);
         due("21 uses fewer", x.why(0), 2);
         x.use(0, SHAPE, 1);
@@ -747,6 +753,11 @@ public final class PromisesTest {
         x.make(16);
         x.give(1, SHAPE, 2, 1, false);
         due("22 only what changed", x.needs(), 1);
+        x.give(1, CONSTANT, 1, 5, false);
+        x.use(2, CONSTANT, 1);
+        x.make(16);
+        x.give(1, CONSTANT, 1, 6, false);
+        due("22 and what finds another value", x.needs(), 2);
     }
 
     /** Promise 23. */
@@ -784,6 +795,13 @@ public final class PromisesTest {
         due("24 no unit", x.force(2), UNKNOWN);
         due("24 no unit -1", x.force(-1), UNKNOWN);
         due("24 not counted", x.count(4), 5);
+        x.give(0, CONSTANT, 1, 5, false);
+        x.use(0, CONSTANT, 1);
+        x.force(0);
+        due("24 with the values as they are now", x.kept(0, 11), 5);
+        x.give(0, CONSTANT, 1, 6, false);
+        x.force(0);
+        due("24 with the values as they are then", x.kept(0, 11), 6);
     }
 
     /** Promise 25. */
@@ -818,6 +836,13 @@ public final class PromisesTest {
         two = digestOf(1, 0, 1, 9, 0, 0, 0, 0, 0, 0);
         zero = digestOf(0, 1, 2, 1, 0, 1, 2, 9, 0, 0);
         due("26 as it is now", x.anew(), digestOf(two, zero));
+        RemakeNeeds2 y = with(1);
+        y.use(0, CONSTANT, 1);
+        for (int digest = 5; digest < 8; digest++) {
+            y.give(0, CONSTANT, 1, digest, false);
+            long row = digestOf(1, 1, 1, digest, 0, 0, 0, 1, 1, 1, 0, digest, 0, 0);
+            due("26 with the values as they are now", y.anew(), digestOf(row));
+        }
     }
 
     /** Promise 27. */
@@ -896,6 +921,8 @@ public final class PromisesTest {
         x.use(3, SHAPE, 9);
         due("29 behind what one of it leads to", x.ring(0) * 10 + x.ring(3), 22);
         due("29 ahead", x.ring(1) * 10 + x.ring(2), 1);
+        x.unway(0);
+        due("29 alone again", x.ring(0) * 10 + x.ring(1), 1);
         due("29 no unit", x.ring(4), UNKNOWN);
         due("29 no unit -1", x.ring(-1), UNKNOWN);
     }
@@ -948,6 +975,8 @@ public final class PromisesTest {
         x.use(1, SHAPE, 2);
         x.use(2, SHAPE, 1);
         due("31 one ring", x.count(2) * 10 + x.count(3), 11);
+        x.unuse(2, 0);
+        due("31 that is no ring more", x.count(3) * 10 + x.count(2), 2);
         due("31 -1", x.count(-1), OUTSIDE);
         due("31 5", x.count(5), OUTSIDE);
     }
