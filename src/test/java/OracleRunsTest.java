@@ -1,15 +1,27 @@
-/** Long runs of calls, the same each time: the class and the oracle must answer alike, call by call. */
+import java.util.ArrayList;
+import java.util.List;
+
+/**
+ * Long runs of calls, the same each time: the class and the oracle must answer alike, call by call.
+ * No object is asked more than the 512 calls that the document promises: what asks for everything asks other
+ * objects, which the same changes have brought where the object of the run is.
+ */
 public final class OracleRunsTest {
     private static final int CALLS = 512;
+    /** Far fewer than the calls of a run: the rest is for questions to the other objects. */
+    private static final int CHANGES = 400;
+    private static long compared = 0;
 
     private long seed;
     private final int nameSpan;
     private final int unitSpan;
     private final int buildWeight;
-    private RemakeNeeds2 x = new RemakeNeeds2();
-    private Oracle o = new Oracle();
-    private String call = "";
-    private static int calls = 0;
+    private final RemakeNeeds2 x = new RemakeNeeds2();
+    private final Oracle o = new Oracle();
+    private final List<Answers.Step> changes = new ArrayList<>();
+    private RemakeNeeds2 other;
+    private int otherLeft = 0;
+    private String lastChange = "";
 
     private OracleRunsTest(long seed, int nameSpan, int unitSpan, int buildWeight) {
         this.seed = seed;
@@ -24,7 +36,7 @@ public final class OracleRunsTest {
             int unitSpan = new int[] {3, 6, 16}[run % 3];
             new OracleRunsTest(run * 7919L + 1, nameSpan, unitSpan, run % 5).walk();
         }
-        System.out.println(calls + " calls held against the oracle");
+        System.out.println(compared + " answers held against the oracle");
         Due.finish();
     }
 
@@ -68,21 +80,47 @@ public final class OracleRunsTest {
         return kind == 0 ? Long.MAX_VALUE - pick(3) : kind == 1 ? Long.MIN_VALUE + pick(3) : pick(4);
     }
 
-    private boolean coin() {
-        return pick(2) == 0;
+    private void same(String what, Due.Call got, Due.Call want) {
+        compared++;
+        String due = Due.answerOf(want);
+        String answer = Due.answerOf(got);
+        if (!answer.equals(due)) {
+            Due.holds("behind " + lastChange + " " + what + " is " + due + ", not " + answer, false);
+        }
     }
 
-    private void same(String what, long got, long want) {
-        calls++;
-        Due.due(call + " then " + what, got, want);
+    /** A call that may change something. */
+    private void changed(String what, Answers.Step step, Due.Call want) {
+        lastChange = what;
+        changes.add(step);
+        otherLeft = 0;
+        same("it", () -> step.on(x), want);
+    }
+
+    /** A call that only asks, of the object of the run. */
+    private void asked(String what, Answers.Step step, Due.Call want) {
+        same(what, () -> step.on(x), want);
+    }
+
+    /** A call that only asks, of another object that stands where that of the run does. */
+    private void askedOther(String what, Answers.Step step, Due.Call want) {
+        if (otherLeft <= 0) {
+            other = new RemakeNeeds2();
+            for (Answers.Step change : changes) {
+                change.on(other);
+            }
+            otherLeft = CALLS - changes.size();
+        }
+        otherLeft--;
+        same(what, () -> step.on(other), want);
     }
 
     private void walk() {
         for (int u = 0; u < unitSpan; u++) {
-            same("unit()", x.unit(), o.unit());
+            changed("unit()", y -> y.unit(), () -> o.unit());
         }
-        for (int i = 0; i < CALLS - unitSpan; i++) {
-            if (pick(5) < 3) {
+        for (int i = unitSpan; i < CALLS; i++) {
+            if (pick(5) < 3 && changes.size() < CHANGES) {
                 change();
             } else {
                 ask();
@@ -95,196 +133,182 @@ public final class OracleRunsTest {
 
     private void change() {
         int kind = pick(100);
-        if (kind < 30) {
-            give(unit(), sort(), name(), digest(), pick(5) == 0);
-        } else if (kind < 34) {
-            int u = unit(), s = sort(), n = name();
-            call = "take(" + u + ", " + s + ", " + n + ")";
-            same("it", x.take(u, s, n), o.take(u, s, n));
-        } else if (kind < 46 + buildWeight * 3) {
-            int u = unit(), n = name(), of = name();
-            call = "build(" + u + ", " + n + ", " + of + ")";
-            same("it", x.build(u, n, of), o.build(u, n, of));
-        } else if (kind < 66) {
-            int u = unit(), v = unit();
-            call = "way(" + u + ", " + v + ")";
-            same("it", x.way(u, v), o.way(u, v));
-        } else if (kind < 80) {
-            int u = unit(), s = sort(), n = name();
-            call = "use(" + u + ", " + s + ", " + n + ")";
-            same("it", x.use(u, s, n), o.use(u, s, n));
-        } else if (kind < 83) {
-            int u = unit(), i = number(12, 12);
-            call = "unuse(" + u + ", " + i + ")";
-            same("it", x.unuse(u, i), o.unuse(u, i));
-        } else if (kind < 88) {
-            int u = unit();
-            boolean on = pick(4) > 0;
-            call = "reader(" + u + ", " + on + ")";
-            same("it", x.reader(u, on), o.reader(u, on));
-        } else if (kind < 95) {
-            int u = unit(), by = pick(6) == 0 ? -5 : unit();
-            call = "generated(" + u + ", " + by + ")";
-            same("it", x.generated(u, by), o.generated(u, by));
-        } else {
-            rare();
-        }
-    }
-
-    private void give(int u, int s, int n, long d, boolean hidden) {
-        call = "give(" + u + ", " + s + ", " + n + ", " + d + ", " + hidden + ")";
-        same("it", x.give(u, s, n, d, hidden), o.give(u, s, n, d, hidden));
-    }
-
-    private void rare() {
         int u = unit();
-        switch (pick(12)) {
-            case 0:
-                call = "remove(" + u + ")";
-                same("it", x.remove(u), o.remove(u));
-                break;
-            case 1:
-            case 2:
-            case 3:
-                call = "unway(" + u + ")";
-                same("it", x.unway(u), o.unway(u));
-                break;
-            case 4:
-                if (pick(6) == 0) {
-                    call = "clear()";
-                    same("it", x.clear(), o.clear());
-                }
-                break;
-            default:
-                call = "unit()";
-                same("it", x.unit(), o.unit());
+        if (kind < 34) {
+            giveOrTake(u, kind < 30);
+        } else if (kind < 46 + buildWeight * 3) {
+            int n = name(), of = name();
+            changed("build(" + u + ", " + n + ", " + of + ")", y -> y.build(u, n, of), () -> o.build(u, n, of));
+        } else if (kind < 66) {
+            int v = unit();
+            changed("way(" + u + ", " + v + ")", y -> y.way(u, v), () -> o.way(u, v));
+        } else if (kind < 80) {
+            int s = sort(), n = name();
+            changed("use(" + u + ", " + s + ", " + n + ")", y -> y.use(u, s, n), () -> o.use(u, s, n));
+        } else if (kind < 83) {
+            int i = number(12, 12);
+            changed("unuse(" + u + ", " + i + ")", y -> y.unuse(u, i), () -> o.unuse(u, i));
+        } else if (kind < 88) {
+            boolean on = pick(4) > 0;
+            changed("reader(" + u + ", " + on + ")", y -> y.reader(u, on), () -> o.reader(u, on));
+        } else if (kind < 95) {
+            int by = pick(6) == 0 ? -5 : unit();
+            changed("generated(" + u + ", " + by + ")", y -> y.generated(u, by), () -> o.generated(u, by));
+        } else {
+            rare(u);
         }
     }
 
+    private void giveOrTake(int u, boolean give) {
+        int s = sort(), n = name();
+        if (!give) {
+            changed("take(" + u + ", " + s + ", " + n + ")", y -> y.take(u, s, n), () -> o.take(u, s, n));
+            return;
+        }
+        long d = digest();
+        boolean hidden = pick(5) == 0;
+        changed("give(" + u + ", " + s + ", " + n + ", " + d + ", " + hidden + ")",
+                y -> y.give(u, s, n, d, hidden), () -> o.give(u, s, n, d, hidden));
+    }
+
+    private void rare(int u) {
+        int kind = pick(12);
+        if (kind == 0) {
+            changed("remove(" + u + ")", y -> y.remove(u), () -> o.remove(u));
+        } else if (kind < 4) {
+            changed("unway(" + u + ")", y -> y.unway(u), () -> o.unway(u));
+        } else if (kind == 4 && pick(6) == 0) {
+            changed("clear()", y -> y.clear(), () -> o.clear());
+        } else {
+            changed("unit()", y -> y.unit(), () -> o.unit());
+        }
+    }
+
+    /** One question, or one making, of the object of the run. */
     private void ask() {
-        int u = unit(), n = name(), s = sort();
-        switch (pick(20)) {
-            case 0:
-                same("found", x.found(u, s, n), o.found(u, s, n));
-                break;
-            case 1:
-                same("value", x.value(u, n), o.value(u, n));
-                break;
-            case 2:
-                same("round", x.round(u, n), o.round(u, n));
-                break;
-            case 3:
-                int i = number(6, 160), what = pick(20) == 0 ? pick(7) - 3 : pick(2);
-                same("chain(" + u + ", " + n + ", " + i + ", " + what + ")", x.chain(u, n, i, what),
-                        o.chain(u, n, i, what));
-                break;
-            case 4:
-                same("missing", x.missing(u), o.missing(u));
-                break;
-            case 5:
-                same("size", x.size(u), o.size(u));
-                break;
-            case 6:
-            case 7:
-                askRows(u, number(40, 680));
-                break;
-            case 8:
-                same("why(" + u + ")", x.why(u), o.why(u));
-                break;
-            case 9:
-                same("needs", x.needs(), o.needs());
-                break;
-            case 10:
-            case 11:
-                int m = pick(8) == 0 ? pick(24) - 4 : pick(17);
-                call = "make(" + m + ")";
-                same("it", x.make(m), o.make(m));
-                break;
-            case 12:
-                call = "force(" + u + ")";
-                same("it", x.force(u), o.force(u));
-                break;
-            case 13:
-                same("output", x.output(u), o.output(u));
-                break;
-            case 14:
-                same("anew", x.anew(), o.anew());
-                break;
-            case 15:
-                same("coarse", x.coarse(), o.coarse());
-                break;
-            case 16:
-                int p = number(16, 16);
-                same("order(" + p + ")", number(() -> x.order(p)), number(() -> o.order(p)));
-                break;
-            case 17:
-                same("ring(" + u + ")", x.ring(u), o.ring(u));
-                break;
-            case 18:
-                int v = unit();
-                same("leads(" + u + ", " + v + ")", x.leads(u, v), o.leads(u, v));
-                break;
-            default:
-                int c = pick(9) - 2;
-                same("count(" + c + ")", x.count(c), o.count(c));
+        int kind = pick(20);
+        if (kind < 5) {
+            askConstants(kind);
+        } else if (kind < 10) {
+            askRows(kind);
+        } else if (kind < 13 && changes.size() < CHANGES) {
+            makeSome(kind);
+        } else {
+            askOrders(kind);
         }
     }
 
-    private void askRows(int u, int i) {
-        same("row(" + u + ", " + i + ")", number(() -> x.row(u, i)), number(() -> o.row(u, i)));
-        same("kept(" + u + ", " + i + ")", number(() -> x.kept(u, i)), number(() -> o.kept(u, i)));
+    private void askConstants(int kind) {
+        int u = unit(), n = name();
+        if (kind == 0) {
+            int s = sort();
+            asked("found(" + u + ", " + s + ", " + n + ")", y -> y.found(u, s, n), () -> o.found(u, s, n));
+        } else if (kind == 1) {
+            asked("value(" + u + ", " + n + ")", y -> y.value(u, n), () -> o.value(u, n));
+        } else if (kind == 2) {
+            asked("round(" + u + ", " + n + ")", y -> y.round(u, n), () -> o.round(u, n));
+        } else if (kind == 3) {
+            int i = number(6, 160), what = pick(20) == 0 ? pick(7) - 3 : pick(2);
+            asked("chain(" + u + ", " + n + ", " + i + ", " + what + ")", y -> y.chain(u, n, i, what),
+                    () -> o.chain(u, n, i, what));
+        } else {
+            asked("missing(" + u + ")", y -> y.missing(u), () -> o.missing(u));
+        }
     }
 
-    /** A number for each answer, and one for each exception that no row is likely to hold. */
-    private static long number(Due.Call call) {
-        try {
-            return call.answer();
-        } catch (ArrayIndexOutOfBoundsException e) {
-            return 0x7AAA_AAAA_AAAA_AAA1L;
-        } catch (NullPointerException e) {
-            return 0x7AAA_AAAA_AAAA_AAA2L;
+    private void askRows(int kind) {
+        int u = unit(), i = number(40, 680);
+        if (kind == 5) {
+            asked("size(" + u + ")", y -> y.size(u), () -> o.size(u));
+        } else if (kind == 6) {
+            asked("row(" + u + ", " + i + ")", y -> y.row(u, i), () -> o.row(u, i));
+        } else if (kind == 7) {
+            asked("kept(" + u + ", " + i + ")", y -> y.kept(u, i), () -> o.kept(u, i));
+        } else if (kind == 8) {
+            asked("why(" + u + ")", y -> y.why(u), () -> o.why(u));
+        } else {
+            asked("needs()", y -> y.needs(), () -> o.needs());
+        }
+    }
+
+    private void makeSome(int kind) {
+        if (kind < 12) {
+            int m = pick(8) == 0 ? pick(24) - 4 : pick(17);
+            changed("make(" + m + ")", y -> y.make(m), () -> o.make(m));
+        } else {
+            int u = unit();
+            changed("force(" + u + ")", y -> y.force(u), () -> o.force(u));
+        }
+    }
+
+    private void askOrders(int kind) {
+        int u = unit();
+        if (kind < 14) {
+            asked("output(" + u + ")", y -> y.output(u), () -> o.output(u));
+        } else if (kind == 14) {
+            asked("anew()", y -> y.anew(), () -> o.anew());
+        } else if (kind == 15) {
+            asked("coarse()", y -> y.coarse(), () -> o.coarse());
+        } else if (kind == 16) {
+            int p = number(16, 16);
+            asked("order(" + p + ")", y -> y.order(p), () -> o.order(p));
+        } else if (kind == 17) {
+            asked("ring(" + u + ")", y -> y.ring(u), () -> o.ring(u));
+        } else if (kind == 18) {
+            int v = unit();
+            asked("leads(" + u + ", " + v + ")", y -> y.leads(u, v), () -> o.leads(u, v));
+        } else {
+            int c = pick(9) - 2;
+            asked("count(" + c + ")", y -> y.count(c), () -> o.count(c));
         }
     }
 
     private void compareAll() {
         for (int u = -1; u <= 16; u++) {
-            same("size", x.size(u), o.size(u));
-            same("why", x.why(u), o.why(u));
-            same("missing", x.missing(u), o.missing(u));
-            same("output", x.output(u), o.output(u));
-            same("ring", x.ring(u), o.ring(u));
-            for (int v = -1; v <= 16; v++) {
-                same("leads", x.leads(u, v), o.leads(u, v));
-            }
-            int size = Math.max(o.size(u), 0);
-            for (int i = -1; i <= size; i++) {
-                askRows(u, i);
-            }
+            compareUnit(u);
             for (int n = 0; n < nameSpan; n++) {
                 compareName(u, n);
             }
         }
-        same("needs", x.needs(), o.needs());
-        same("coarse", x.coarse(), o.coarse());
-        same("anew", x.anew(), o.anew());
-        for (int i = -1; i < 6; i++) {
-            same("count(" + i + ")", x.count(i), o.count(i));
-        }
+        askedOther("needs()", y -> y.needs(), () -> o.needs());
+        askedOther("coarse()", y -> y.coarse(), () -> o.coarse());
+        askedOther("anew()", y -> y.anew(), () -> o.anew());
         for (int i = -1; i <= 16; i++) {
-            int place = i;
-            same("order", number(() -> x.order(place)), number(() -> o.order(place)));
+            int at = i;
+            askedOther("count", y -> y.count(at), () -> o.count(at));
+            askedOther("order", y -> y.order(at), () -> o.order(at));
+        }
+    }
+
+    private void compareUnit(int u) {
+        askedOther("size", y -> y.size(u), () -> o.size(u));
+        askedOther("why", y -> y.why(u), () -> o.why(u));
+        askedOther("missing", y -> y.missing(u), () -> o.missing(u));
+        askedOther("output", y -> y.output(u), () -> o.output(u));
+        askedOther("ring", y -> y.ring(u), () -> o.ring(u));
+        for (int v = -1; v <= 16; v++) {
+            int to = v;
+            askedOther("leads", y -> y.leads(u, to), () -> o.leads(u, to));
+        }
+        int size = Math.max(o.size(u), 0);
+        for (int i = -1; i <= size; i++) {
+            int at = i;
+            askedOther("row", y -> y.row(u, at), () -> o.row(u, at));
+            askedOther("kept", y -> y.kept(u, at), () -> o.kept(u, at));
         }
     }
 
     private void compareName(int u, int n) {
-        same("value", x.value(u, n), o.value(u, n));
-        same("round", x.round(u, n), o.round(u, n));
+        askedOther("value", y -> y.value(u, n), () -> o.value(u, n));
+        askedOther("round", y -> y.round(u, n), () -> o.round(u, n));
         for (int s = 0; s < 3; s++) {
-            same("found", x.found(u, s, n), o.found(u, s, n));
+            int sort = s;
+            askedOther("found", y -> y.found(u, sort, n), () -> o.found(u, sort, n));
         }
         for (int i = -1; i < 10; i++) {
-            same("chain", x.chain(u, n, i, 0), o.chain(u, n, i, 0));
-            same("chain", x.chain(u, n, i, 1), o.chain(u, n, i, 1));
+            int at = i;
+            askedOther("chain", y -> y.chain(u, n, at, 0), () -> o.chain(u, n, at, 0));
+            askedOther("chain", y -> y.chain(u, n, at, 1), () -> o.chain(u, n, at, 1));
         }
     }
 }

@@ -2,7 +2,7 @@
 public final class PromisesTest {
     private static final int UNKNOWN = -1, OUTSIDE = -2, STATE = -3, FULL = -4, NONE = -5;
     private static final int SHAPE = 0, CONSTANT = 1, MARK = 2;
-    private static final Class<?> NO_PLACE = ArrayIndexOutOfBoundsException.class;
+    private static final Class<?> NO_PLACE = Checks.NO_PLACE;
 
     public static void main(String[] args) {
         newObject();
@@ -51,44 +51,23 @@ public final class PromisesTest {
     }
 
     private static RemakeNeeds2 with(int units) {
-        RemakeNeeds2 x = new RemakeNeeds2();
-        for (int u = 0; u < units; u++) {
-            due("with: unit", x.unit(), u);
-        }
-        return x;
+        return Checks.with(units);
     }
 
-    /** The digest of a row, by the document's words. */
     private static long digestOf(long... row) {
-        long h = 17;
-        for (long it : row) {
-            h = (h ^ it) * 0x9E3779B97F4A7C15L;
-            h = h ^ (h >>> 29);
-        }
-        return h;
+        return Checks.digestOf(row);
     }
 
     private static void rowIs(String what, RemakeNeeds2 x, int unit, long... want) {
-        due(what + ": size", x.size(unit), want.length);
-        for (int i = 0; i < want.length && i < x.size(unit); i++) {
-            due(what + ": row " + i, x.row(unit, i), want[i]);
-        }
+        Checks.rowIs(what, x, unit, want);
     }
 
     private static void chainIs(String what, RemakeNeeds2 x, int unit, int name, int... want) {
-        for (int i = 0; i * 2 < want.length; i++) {
-            due(what + ": unit of " + i, x.chain(unit, name, i, 0), want[i * 2]);
-            due(what + ": name of " + i, x.chain(unit, name, i, 1), want[i * 2 + 1]);
-        }
-        due(what + ": behind", x.chain(unit, name, want.length / 2, 0), NONE);
-        due(what + ": behind", x.chain(unit, name, want.length / 2, 1), NONE);
+        Checks.chainIs(what, x, unit, name, want);
     }
 
     private static void orderIs(String what, RemakeNeeds2 x, int... want) {
-        for (int i = 0; i < want.length; i++) {
-            due(what + ": place " + i, x.order(i), want[i]);
-        }
-        Due.throwsIt(what + ": behind", NO_PLACE, () -> x.order(want.length));
+        Checks.orderIs(what, x, want);
     }
 
     /** Promise 1. */
