@@ -501,10 +501,6 @@ public final class RemakeNeeds2 {
             this.owner = owner;
             builtOf = new Ints(MOST_BUILT);
         }
-
-        boolean isConstant() {
-            return sortOf(key) == CONSTANT;
-        }
     }
 
     /** One unit: what it gives, its way and uses, and the row it keeps. */
@@ -758,7 +754,7 @@ public final class RemakeNeeds2 {
                 Unit one = units.at(u);
                 for (int t = 0; one != null && t < one.thingCount(); t++) {
                     Thing thing = one.thingAt(t);
-                    if (thing != null && thing.isConstant() && thing.stage == Thing.FRESH) {
+                    if (thing != null && sortOf(thing.key) == CONSTANT && thing.stage == Thing.FRESH) {
                         settle(thing, units);
                     }
                 }
@@ -1062,7 +1058,7 @@ public final class RemakeNeeds2 {
                 return;
             }
             row.append(thing.owner);
-            row.append(thing.isConstant() ? thing.sum : thing.digest);
+            row.append(sortOf(thing.key) == CONSTANT ? thing.sum : thing.digest);
         }
 
         private static void writeMarks(Row row, Unit one, Units units) {

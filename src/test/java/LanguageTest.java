@@ -2,6 +2,10 @@ import java.io.IOException;
 import java.nio.file.Files;
 import java.nio.file.Path;
 import java.util.List;
+import java.util.Map;
+import java.util.Set;
+import java.util.TreeMap;
+import java.util.TreeSet;
 import java.util.regex.Matcher;
 import java.util.regex.Pattern;
 
@@ -29,6 +33,7 @@ public final class LanguageTest {
         throwsOnlyWhatIsTold(lines);
         Due.holds("methods were found", methodsAreShort(lines) > 60);
         Due.holds("at most twelve classes", classes(lines) <= 12);
+        callsGoEightDeep(lines);
         Due.finish();
     }
 
@@ -57,6 +62,41 @@ public final class LanguageTest {
             Due.holds("at most seven parameters: " + lines.get(i), parameters <= 7);
         }
         return methods;
+    }
+
+    /** Methods of one name are taken as one: the depth can only seem larger than it is. */
+    private static void callsGoEightDeep(List<String> lines) {
+        Map<String, Set<String>> callsOf = new TreeMap<>();
+        String method = null;
+        for (String line : lines) {
+            Matcher head = METHOD.matcher(line);
+            if (head.matches()) {
+                method = line.replaceAll("\\(.*", "").replaceAll(".* ", "");
+                callsOf.computeIfAbsent(method, name -> new TreeSet<>());
+            } else if (method != null && !line.matches("^\\s*(/\\*|\\*|//).*$")) {
+                Matcher call = Pattern.compile("\\b([A-Za-z]+)\\(").matcher(line);
+                while (call.find()) {
+                    callsOf.get(method).add(call.group(1));
+                }
+            }
+        }
+        for (String name : callsOf.keySet()) {
+            int depth = depthOf(name, callsOf, 0);
+            Due.holds("calls from " + name + " go eight deep at most, not " + depth, depth <= 8);
+        }
+    }
+
+    /** A ring of calls is as deep as this looks. */
+    private static int depthOf(String name, Map<String, Set<String>> callsOf, int above) {
+        int below = 0;
+        if (above < 20 && callsOf.containsKey(name)) {
+            for (String called : callsOf.get(name)) {
+                if (callsOf.containsKey(called)) {
+                    below = Math.max(below, depthOf(called, callsOf, above + 1));
+                }
+            }
+        }
+        return below + 1;
     }
 
     private static int classes(List<String> lines) {

@@ -36,6 +36,9 @@ public final class OracleRunsTest {
             int unitSpan = new int[] {3, 6, 16}[run % 3];
             new OracleRunsTest(run * 7919L + 1, nameSpan, unitSpan, run % 5).walk();
         }
+        for (int run = 0; run < 60; run++) {
+            new OracleRunsTest(run * 104729L + 7, 4 + run % 7, 1 + run % 3, 0).walkThick();
+        }
         System.out.println(compared + " answers held against the oracle");
         Due.finish();
     }
@@ -127,6 +130,42 @@ public final class OracleRunsTest {
             }
             if (i % 64 == 63) {
                 compareAll();
+            }
+        }
+    }
+
+    /** Constants that are built of many others: rings within rings, and chains that meet again and again. */
+    private void walkThick() {
+        for (int u = 0; u < unitSpan; u++) {
+            changed("unit()", y -> y.unit(), () -> o.unit());
+        }
+        for (int u = 0; u < unitSpan; u++) {
+            giveThick(u);
+            for (int v = unitSpan - 1; v >= 0; v--) {
+                int unit = u, other = v;
+                changed("way(" + u + ", " + v + ")", y -> y.way(unit, other), () -> o.way(unit, other));
+            }
+        }
+        compareAll();
+        changed("make(16)", y -> y.make(16), () -> o.make(16));
+        int u = pick(unitSpan), n = pick(nameSpan);
+        changed("take(" + u + ", 1, " + n + ")", y -> y.take(u, 1, n), () -> o.take(u, 1, n));
+        compareAll();
+    }
+
+    private void giveThick(int u) {
+        for (int n = 0; n < nameSpan; n++) {
+            int name = n;
+            long d = digest();
+            boolean hidden = pick(6) == 0;
+            if (pick(5) > 0) {
+                changed("give(" + u + ", 1, " + n + ")", y -> y.give(u, 1, name, d, hidden),
+                        () -> o.give(u, 1, name, d, hidden));
+            }
+            for (int times = pick(4); times > 0; times--) {
+                int of = pick(nameSpan);
+                changed("build(" + u + ", " + n + ", " + of + ")", y -> y.build(u, name, of),
+                        () -> o.build(u, name, of));
             }
         }
     }
@@ -305,7 +344,7 @@ public final class OracleRunsTest {
             int sort = s;
             askedOther("found", y -> y.found(u, sort, n), () -> o.found(u, sort, n));
         }
-        for (int i = -1; i < 10; i++) {
+        for (int i = -1; i < 16; i++) {
             int at = i;
             askedOther("chain", y -> y.chain(u, n, at, 0), () -> o.chain(u, n, at, 0));
             askedOther("chain", y -> y.chain(u, n, at, 1), () -> o.chain(u, n, at, 1));
